@@ -270,6 +270,9 @@ public final class PromiseTest {
         promise = 10;
         PowerShares x = new PowerShares();
         due("empty", x.fault(), PowerShares.NONE);
+        x.type('A');
+        due("at the first place", x.fault(), 0);
+        x.wipe();
         type(x, "abc");
         due("abc", x.fault(), PowerShares.NONE);
         x.on(1);
@@ -335,6 +338,10 @@ public final class PromiseTest {
         due("three items", x.read(1), 3);
         due("heard(1, 0) then", x.heard(1, 0), 3);
         due("heard(1, 1) as it was", x.heard(1, 1), 7);
+        x.sheet(1, 2, 1);
+        x.put(1, 2, 0, 8);
+        due("one item", x.read(1), 1);
+        due("heard(0, 1) as it was", x.heard(0, 1), 5);
         x.sheet(1, 1, 0);
         due("no items", x.read(1), 0);
         due("the latest finding stays", x.count(8), 1);
@@ -382,12 +389,25 @@ public final class PromiseTest {
         powers(y, 999, 999, 999, 999, 999);
         due("the greatest NEED", y.info(0, 5), 2 * (4 * 9 * 999 + 9));
         PowerShares z = new PowerShares();
+        z.power(2, 500);
         z.senders(2);
         z.set(0, 1, 0);
-        z.power(2, 500);
         z.power(1, 0);
         due("one that is not there sends nothing", z.info(0, 5), 0);
         due("HAS with nothing heard", z.info(0, 6), 1);
+        z.gain(0, 1, 3);
+        z.gain(1, 0, 0);
+        z.power(1, 20);
+        due("what its own receiver hears", z.info(0, 5), 3);
+        PowerShares one = deaf(1);
+        one.set(0, 0, 1);
+        due("a tenth needs one", one.info(0, 5), 1);
+        one.set(0, 0, 20);
+        one.set(0, 1, 9);
+        one.power(0, 17);
+        due("HAS not, by one", one.info(0, 6), 0);
+        one.power(0, 18);
+        due("HAS just", one.info(0, 6), 1);
     }
 
     private static void promise13() {
@@ -490,6 +510,12 @@ public final class PromiseTest {
         x.set(1, 1, 0);
         due("nothing, above", x.least(1, 0), 0);
         due("nothing, below", x.least(1, 1), 1);
+        PowerShares y = deaf(2);
+        y.gain(0, 1, 4);
+        due("by what its own receiver hears, above", y.least(0, 0), 3);
+        due("by what its own receiver hears, below", y.least(0, 1), 2);
+        due("of the other, above", y.least(1, 0), 1);
+        due("of the other, below", y.least(1, 1), 2);
         x.set(0, 0, 20);
         x.set(1, 0, 20);
         due("not FEASIBLE", x.least(0, 0), LONG_NOT);
@@ -505,10 +531,16 @@ public final class PromiseTest {
         PowerShares early = clash(clash(deaf(3), 0, 1, 9), 0, 2, 9);
         PowerShares oneWay = deaf(2);
         oneWay.gain(0, 1, 9);
-        PowerShares[] all = {fine, two, three, twice, star, early, oneWay};
-        int[] witness = {0, 3, 7, 6, 9, 3, 0};
-        int[] out = {0, 1, 1, 3, 8, 1, 0};
-        int[] admitted = {7, 1, 3, 3, 23, 1, 3};
+        // by 20 and 5 any four are FEASIBLE, five are just not
+        PowerShares five = new PowerShares();
+        five.senders(5);
+        for (int i = 0; i < 5; i++) {
+            five.gain(i, i, 2);
+        }
+        PowerShares[] all = {fine, two, three, twice, star, early, oneWay, five};
+        int[] witness = {0, 3, 7, 6, 9, 3, 0, 31};
+        int[] out = {0, 1, 1, 3, 8, 1, 0, 1};
+        int[] admitted = {7, 1, 3, 3, 23, 1, 3, 15};
         for (int k = 0; k < all.length; k++) {
             promise = 17;
             due("witness() of case " + k, all[k].witness(), witness[k]);
@@ -561,6 +593,16 @@ public final class PromiseTest {
         x.set(0, 0, 1);
         x.set(1, 0, 20);
         due("1 at least", x.softer(), 1);
+        x = deaf(2);
+        x.gain(0, 1, 3);
+        x.gain(1, 0, 1);
+        x.set(0, 0, 2);
+        x.set(1, 0, 19);
+        due("2 may be 1", x.softer(), 0);
+        x = clash(deaf(2), 0, 1, 1);
+        x.set(0, 0, 12);
+        x.set(1, 0, 10);
+        due("one tenth less, not two", x.softer(), PowerShares.NONE);
         PowerShares y = clash(clash(clash(deaf(3), 0, 1, 1), 0, 2, 1), 1, 2, 1);
         due("three", y.softer(), 0);
         y = clash(deaf(3), 1, 2, 2);
@@ -729,6 +771,12 @@ public final class PromiseTest {
             due("rest(1) by CAP " + cap[k], x.rest(1), rest[k]);
             duePowers("still() and rest()", x, 0, 0);
         }
+        promise = 26;
+        PowerShares byTurns = pair();
+        byTurns.set(1, 1, 0);
+        due("one moves, then the other, 200 times", byTurns.still(), 200);
+        byTurns.set(0, 2, 101);
+        due("the first moves once more", byTurns.still(), PowerShares.NONE);
         PowerShares y = pair();
         y.set(0, 1, 0);
         y.set(1, 1, 0);
@@ -766,6 +814,7 @@ public final class PromiseTest {
         x.senders(5);
         x.power(4, 1);
         due("the fifth", x.met(), 17);
+        x.power(1, 9);
         x.senders(1);
         due("of senders alone", x.met(), 1);
         x.set(0, 2, 0);
@@ -792,8 +841,10 @@ public final class PromiseTest {
         due("it stays", x.get(0, 0, 59), 7);
         due("again", x.sheet(0, 0, 60), 60);
         due("0 at first", x.get(0, 0, 59), 0);
+        x.put(0, 0, 0, 9);
         x.put(0, 0, 1, 9);
         due("another FORM", x.sheet(0, 1, 2), 2);
+        due("0 at first, too", x.get(0, 1, 0), 0);
         due("0 at first, too", x.get(0, 1, 1), 0);
     }
 
@@ -941,6 +992,11 @@ public final class PromiseTest {
         for (int what = 0; what <= 8; what++) {
             due("count(" + what + ") without 0", x.count(what), then[what]);
         }
+        x.senders(2);
+        due("count(3) of senders alone", x.count(3), 2);
+        due("count(2) of senders alone", x.count(2), 1);
+        due("count(1) of senders alone", x.count(1), 1);
+        x.senders(4);
         x.on(0);
         x.set(0, 2, 999);
         x.set(3, 2, 999);
