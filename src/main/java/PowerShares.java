@@ -322,7 +322,7 @@ public final class PowerShares {
             case 6:
                 return text.length;
             case 7:
-                return still();
+                return walk.settle();
             case 8:
                 return latestFinding;
             default:
@@ -519,10 +519,11 @@ public final class PowerShares {
         }
 
         int othersAndNoise(int i, int[] row) {
+            // the innermost loop of every walk: it calls nothing, so that calls stay few deep
             int sum = noises[i];
             for (int j = 0; j < many; j++) {
-                if (j != i && isOn(j)) {
-                    sum += gainOf(i, j) * row[j];
+                if (j != i && (onBits >> j & 1) == 1) {
+                    sum += gains[i * MOST + j] * row[j];
                 }
             }
             return sum;
