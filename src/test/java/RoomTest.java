@@ -23,7 +23,7 @@ public final class RoomTest {
         long byMaking = bean.getThreadAllocatedBytes(self) - before;
         // a single object a round would be 16,000 bytes at least
         boolean fits = byCalls < 12_000 && byMaking < 1000 * 4_000L;
-        System.out.println("room: " + (fits ? "as due" : "too much is made") + ", 38,000 calls made " + byCalls
+        System.out.println("room: " + (fits ? "as due" : "too much is made") + ", 1,000 rounds of all calls made " + byCalls
                 + " bytes, 1,000 objects " + byMaking);
         if (!fits) {
             System.exit(1);
