@@ -5,6 +5,8 @@ public final class PowerShares {
     private static final int NULL = 1, INDEX = 2, CAST = 3, STORE = 4, SIZE = 5;
     private static final int SHEETS = 4;
     private static final int FORMS = 3;
+    private static final int LEAST_INT = 1 << 31;
+    private static final long LEAST_LONG = 1L << 63;
 
     private final Senders told;
     private final Laws laws;
@@ -270,7 +272,7 @@ public final class PowerShares {
     }
 
     public int get(int s, int form, int i) {
-        return refusalOfItem(s, form, i) != 0 ? Integer.MIN_VALUE : sheets[s].items[i];
+        return refusalOfItem(s, form, i) != 0 ? LEAST_INT : sheets[s].items[i];
     }
 
     public int copy(int s, int i, int t, int j, int n) {
@@ -439,7 +441,7 @@ public final class PowerShares {
     }
 
     private static long asLong(int refusal) {
-        return Long.MIN_VALUE - refusal;
+        return LEAST_LONG - refusal;
     }
 
     private static long lowestTerm(long above, long below, int what) {
