@@ -76,9 +76,9 @@ abstract class Edges {
         }
     }
 
-    /** Every promise from the first to the last must have had an edge. */
-    static void end(String name, int first, int last) {
-        for (int promise = first; promise <= last; promise++) {
+    /** Every one of these promises must have had an edge. */
+    static void end(String name, int... promises) {
+        for (int promise : promises) {
             if (!PROMISES.contains(promise)) {
                 wrong++;
                 System.out.println("promise " + promise + " has no edge");

@@ -13,7 +13,7 @@ public final class EdgesOfExactTest extends Edges {
         softer();
         margin();
         share();
-        end("edges of what is told exactly", 14, 22);
+        end("edges of what is told exactly", 14, 15, 16, 17, 18, 19, 20, 21, 22);
     }
 
     /** All hear all others with GAIN v. */

@@ -16,7 +16,7 @@ public final class EdgesOfRefusalsTest extends Edges {
         steps();
         sheets();
         answersChangeNothing();
-        end("edges of refusals", 2, 8);
+        end("edges of refusals", 2, 3, 4, 5, 6, 7, 8, 11, 12, 13, 14, 16, 22, 23, 27, 29, 30, 31, 32, 33, 34, 35);
     }
 
     /** Four SENDERS, unlike in all; 2 is OFF; a full ORDER; bytes, shorts, a LOST SHEET and an empty one. */

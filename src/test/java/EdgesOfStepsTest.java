@@ -8,7 +8,7 @@ public final class EdgesOfStepsTest extends Edges {
         still();
         rest();
         met();
-        end("edges of steps", 23, 28);
+        end("edges of steps", 23, 24, 25, 26, 27, 28);
     }
 
     // ---- promise 23

@@ -13,7 +13,7 @@ public final class EdgesOfToldTest extends Edges {
         read();
         info();
         heard();
-        end("edges of what is told", 1, 13);
+        end("edges of what is told", 1, 2, 3, 4, 5, 6, 7, 8, 9, 10, 11, 12, 13);
     }
 
     // ---- promise 1
